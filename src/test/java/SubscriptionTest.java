@@ -65,18 +65,26 @@ public final class SubscriptionTest {
     }
 
     private static void unsubscribingLeavesTheOthers() {
-        for (int gone = 1; gone <= 5; gone++) {
-            TopicBroker x = new TopicBroker();
-            for (int c = 0; c < 4; c++) {
-                for (int f = 1; f <= 5; f++) {
-                    x.subscribe(c, f, f % 3);
-                }
+        for (int c = 0; c < 4; c++) {
+            for (int gone = 1; gone <= 5; gone++) {
+                unsubscribingLeavesTheOthers(c, gone);
             }
-            Check.due("unsubscribe", x.unsubscribe(1, gone), gone % 3);
-            Check.due("reached", x.reached(gone), 13);
+        }
+    }
+
+    private static void unsubscribingLeavesTheOthers(int c, int gone) {
+        TopicBroker x = new TopicBroker();
+        for (int each = 0; each < 4; each++) {
             for (int f = 1; f <= 5; f++) {
-                Check.due("the other's", x.unsubscribe(2, f), f % 3);
-                Check.due("one left or gone", x.unsubscribe(1, f), f == gone ? Check.NONE : f % 3);
+                x.subscribe(each, f, f % 3);
+            }
+        }
+        Check.due("unsubscribe", x.unsubscribe(c, gone), gone % 3);
+        Check.due("reached", x.reached(gone), 15 - (1 << c));
+        for (int each = 0; each < 4; each++) {
+            for (int f = 1; f <= 5; f++) {
+                int want = each == c && f == gone ? Check.NONE : f % 3;
+                Check.due("unsubscribe each", x.unsubscribe(each, f), want);
             }
         }
     }
