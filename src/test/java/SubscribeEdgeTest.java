@@ -8,6 +8,7 @@ public final class SubscribeEdgeTest {
         subscribedAlready();
         staysWhereItIs();
         keptTopicsThatMatch();
+        keptTopicsAgain();
         inTheOrderOfNumbers();
         lesserOfGradeAndOne();
         asWhenPublishingOffline();
@@ -78,6 +79,22 @@ public final class SubscribeEdgeTest {
         Check.due("all", x.subscribe(2, Check.list(0, REST), 1), 3);
         Check.due("waiting", x.waiting(2), 3);
         Check.due("client 0 has got nothing since", x.waiting(0), 0);
+    }
+
+    private static void keptTopicsAgain() {
+        Check.sentence("Then, for every topic with a kept value that f matches", "also if it had the subscription");
+        for (int after = 0; after <= 2; after++) {
+            TopicBroker x = new TopicBroker();
+            x.subscribe(0, 1, 1);
+            x.keep(1, 5);
+            Check.due("waiting", x.waiting(0), 0);
+            Check.due("subscribe again", x.subscribe(0, 1, after), 1);
+            Check.due("waiting", x.waiting(0), 1);
+            Check.due("the new grade counts", x.firstGrade(0), after == 0 ? 0 : 1);
+            Check.due("and again", x.subscribe(0, 1, after), 1);
+            Check.due("waiting", x.waiting(0), 2);
+            Check.due("subscriptions", x.subscriptions(0), 1);
+        }
     }
 
     private static void inTheOrderOfNumbers() {
