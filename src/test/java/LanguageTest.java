@@ -21,8 +21,11 @@ import java.util.HashMap;
 import java.util.Map;
 import java.util.Set;
 import java.util.TreeSet;
+import javax.lang.model.element.Element;
 import javax.lang.model.element.Modifier;
+import javax.lang.model.element.VariableElement;
 import javax.lang.model.type.TypeKind;
+import javax.lang.model.util.ElementFilter;
 import javax.tools.JavaCompiler;
 import javax.tools.StandardJavaFileManager;
 import javax.tools.ToolProvider;
@@ -44,7 +47,8 @@ public final class LanguageTest {
         Tree.Kind.INSTANCE_OF, Tree.Kind.LAMBDA_EXPRESSION, Tree.Kind.MEMBER_REFERENCE,
         Tree.Kind.NEW_CLASS, Tree.Kind.IMPORT, Tree.Kind.PACKAGE,
         Tree.Kind.STRING_LITERAL, Tree.Kind.NULL_LITERAL, Tree.Kind.FLOAT_LITERAL, Tree.Kind.DOUBLE_LITERAL,
-        Tree.Kind.INTERFACE, Tree.Kind.ENUM, Tree.Kind.RECORD, Tree.Kind.ANNOTATION_TYPE);
+        Tree.Kind.INTERFACE, Tree.Kind.ENUM, Tree.Kind.RECORD, Tree.Kind.ANNOTATION_TYPE,
+        Tree.Kind.ANNOTATION, Tree.Kind.TYPE_PARAMETER);
 
     private static final int MOST_PARAMETERS = 7;
     private static final int MOST_LINES = 60;
@@ -53,6 +57,8 @@ public final class LanguageTest {
 
     private final Map<String, Set<String>> calls = new HashMap<>();
     private final Set<String> visible = new TreeSet<>();
+    private final Map<String, String> arrayLengths = new HashMap<>();
+    private final Map<String, Number> constants = new HashMap<>();
     private int fields = 0;
 
     public static void main(String[] args) throws IOException {
@@ -72,6 +78,7 @@ public final class LanguageTest {
             rule("one class", unit.getTypeDecls().size() == 1);
             ClassTree type = (ClassTree) unit.getTypeDecls().get(0);
             rule("public and final", type.getModifiers().getFlags().equals(EnumSet.of(Modifier.PUBLIC, Modifier.FINAL)));
+            rule("of no other class", type.getExtendsClause() == null && type.getImplementsClause().isEmpty());
             for (Tree member : type.getMembers()) {
                 if (member instanceof MethodTree method) {
                     method(method, unit, Trees.instance(task));
@@ -82,13 +89,34 @@ public final class LanguageTest {
                 }
             }
             new Rules().scan(unit, null);
+            new Bounds(arrayLengths.keySet()).scan(unit, null);
+            constants(task);
         }
+        arrayLengths.forEach((name, length) -> rule("the length of " + name + " is 1 or more", lengthOf(length) >= 1));
         rule("the face is " + visible, visible.equals(FACE));
         rule("fields: " + fields, fields <= MOST_FIELDS);
         for (String name : calls.keySet()) {
             int depth = depth(name, MOST_DEPTH);
             rule("calls deep from " + name + ": " + depth, depth <= MOST_DEPTH);
         }
+    }
+
+    /** Only the compiler knows which fields are compile-time constants. */
+    private void constants(JavacTask task) throws IOException {
+        for (Element type : task.analyze()) {
+            for (VariableElement field : ElementFilter.fieldsIn(type.getEnclosedElements())) {
+                if (field.getModifiers().contains(Modifier.STATIC)) {
+                    Object value = field.getConstantValue();
+                    rule(field + " is a compile-time constant", value instanceof Number);
+                    constants.put(field.toString(), value instanceof Number number ? number : 0);
+                }
+            }
+        }
+    }
+
+    /** Of a literal or a constant's name; 0 for anything else. */
+    private long lengthOf(String length) {
+        return length.matches("\\d{1,9}") ? Long.parseLong(length) : constants.getOrDefault(length, 0).longValue();
     }
 
     private void method(MethodTree method, CompilationUnitTree unit, Trees trees) {
@@ -101,7 +129,10 @@ public final class LanguageTest {
         rule("lines of " + name, last - first < MOST_LINES);
         rule(name + " answers no array", !(method.getReturnType() instanceof ArrayTypeTree));
         Set<Modifier> flags = method.getModifiers().getFlags();
-        if (!flags.contains(Modifier.PRIVATE)) {
+        rule(name + " throws nothing", method.getThrows().isEmpty());
+        if (flags.contains(Modifier.PRIVATE)) {
+            rule(name + " is at most static beside", EnumSet.of(Modifier.PRIVATE, Modifier.STATIC).containsAll(flags));
+        } else {
             rule(name + " is public alone", flags.equals(EnumSet.of(Modifier.PUBLIC)));
             String type = method.getReturnType() == null ? "" : method.getReturnType() + " ";
             visible.add(type + name + "(" + method.getParameters() + ")");
@@ -129,10 +160,20 @@ public final class LanguageTest {
         } else {
             fields++;
         }
+        if (field.getType() instanceof ArrayTypeTree) {
+            rule(field + " is final", flags.contains(Modifier.FINAL));
+            arrayLengths.put(field.getName().toString(), lengthIn(field.getInitializer()));
+        }
         if (!flags.contains(Modifier.PRIVATE)) {
             rule(field.getName() + " is public", flags.contains(Modifier.PUBLIC) && flags.contains(Modifier.STATIC));
             visible.add(field.getType() + " " + field.getName());
         }
+    }
+
+    /** As it is written where the field's array is made. */
+    private static String lengthIn(ExpressionTree initializer) {
+        boolean told = initializer instanceof NewArrayTree made && made.getDimensions().size() == 1;
+        return told ? ((NewArrayTree) initializer).getDimensions().get(0).toString() : "not told";
     }
 
     /** How deep calls go from a method on, followed only so far that recursion shows as too deep. */

@@ -9,6 +9,8 @@ public final class SubscribeEdgeTest {
         staysWhereItIs();
         keptTopicsThatMatch();
         keptTopicsAgain();
+        keptTopicsAgainInOrder();
+        keptTopicsAgainOffline();
         inTheOrderOfNumbers();
         lesserOfGradeAndOne();
         asWhenPublishingOffline();
@@ -94,6 +96,48 @@ public final class SubscribeEdgeTest {
             Check.due("and again", x.subscribe(0, 1, after), 1);
             Check.due("waiting", x.waiting(0), 2);
             Check.due("subscriptions", x.subscriptions(0), 1);
+        }
+    }
+
+    /** A client whose five subscriptions all match topic 1, 1; three kept values match ONE, ONE. */
+    private static TopicBroker fiveAndThree() {
+        TopicBroker x = new TopicBroker();
+        for (int f : new int[] {Check.list(1, 1), Check.list(ONE, ONE), Check.list(1, REST), ALL, Check.list(ONE, 1)}) {
+            x.subscribe(2, f, 2);
+        }
+        x.keep(Check.list(4, 4), 44);
+        x.keep(Check.list(1, 1), 11);
+        x.keep(Check.list(3, 0), 30);
+        x.keep(Check.list(0), 1);
+        return x;
+    }
+
+    private static void keptTopicsAgainInOrder() {
+        Check.sentence("that f matches, in the order of the topics' numbers", "also if it had the subscription");
+        for (int after = 0; after <= 2; after++) {
+            TopicBroker x = fiveAndThree();
+            Check.due("subscribe again", x.subscribe(2, Check.list(ONE, ONE), after), 3);
+            Check.due("waiting", x.waiting(2), 3);
+            for (int value : new int[] {11, 30, 44}) {
+                Check.due("firstGrade", x.firstGrade(2), Math.min(after, 1));
+                Check.due("take", x.take(2), value);
+            }
+            Check.due("subscriptions", x.subscriptions(2), 5);
+            Check.due("unsubscribe", x.unsubscribe(2, Check.list(ONE, ONE)), after);
+        }
+    }
+
+    private static void keptTopicsAgainOffline() {
+        Check.sentence("goes to c, as when publishing", "also if it had the subscription");
+        for (int after = 0; after <= 2; after++) {
+            TopicBroker x = fiveAndThree();
+            for (int i = 0; i < 10; i++) {
+                x.publish(Check.list(2), i, 2);
+            }
+            x.connect(2, 0);
+            Check.due("subscribe again, offline, room for 2", x.subscribe(2, Check.list(ONE, ONE), after), 3);
+            Check.due("waiting", x.waiting(2), after == 0 ? 10 : 12);
+            Check.due("lost", x.lost(2), after == 0 ? 0 : 1);
         }
     }
 
