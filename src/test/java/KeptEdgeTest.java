@@ -162,6 +162,7 @@ public final class KeptEdgeTest {
         Check.sentence("it has none answers NONE");
         refuseForget(Standing.NEW, Check.list(0), Check.NONE);
         refuseForget(Standing.USED, Check.list(2), Check.NONE);
+        refuseForget(Standing.OFFLINE, Check.list(1), Check.NONE);
         refuseForget(Standing.FULL, Check.list(0), Check.NONE);
         refuseForget(Standing.FULL, Check.list(1, 3, 0), Check.NONE);
         refuseForget(Standing.FULL, Check.list(4, 4, 4, 4), Check.NONE);
